@@ -16,23 +16,27 @@ final class AssumptionTest {
         blameWithoutAnyModel();
         blameLeavesTheFirstOut();
         blameOfEqualOnes();
-        blameOfThree();
+        blameOfFour();
         blameMindsAssertions();
         blameOfAllEight();
         blameChangesNothing();
         Expect.finish();
     }
 
-    /** One variable of 4 bits; formula n says that it is n, formula 16 + n that it is not. */
     private static BitSolver numbers() {
+        return numbersOf(4);
+    }
+
+    /** One variable; formula n says that it is n, those behind them in order that it is not. */
+    private static BitSolver numbersOf(int width) {
         BitSolver x = new BitSolver();
-        x.variable(4);
+        x.variable(width);
         x.term(1, 0, 0, 0);
-        for (int n = 0; n < 16; n++) {
-            x.term(0, n, 4, 0);
+        for (int n = 0; n < 1 << width; n++) {
+            x.term(0, n, width, 0);
             x.formula(0, 0, n + 1);
         }
-        for (int n = 0; n < 16; n++) {
+        for (int n = 0; n < 1 << width; n++) {
             x.formula(6, n, 0);
         }
         return x;
@@ -152,17 +156,8 @@ final class AssumptionTest {
         Expect.answer("blame of what never holds", 8, x::blame);
     }
 
-    private static void blameOfThree() {
-        BitSolver x = new BitSolver();
-        x.variable(2);
-        x.term(1, 0, 0, 0);
-        for (int n = 0; n < 4; n++) {
-            x.term(0, n, 2, 0);
-            x.formula(0, 0, n + 1);
-        }
-        for (int n = 0; n < 4; n++) {
-            x.formula(6, n, 0);
-        }
+    private static void blameOfFour() {
+        BitSolver x = numbersOf(2);
         assumeAll(x, 4, 5, 5, 6, 7);
         Expect.answer("all four values are ruled out", 29, x::blame);
         x.assertion(5);
@@ -180,15 +175,8 @@ final class AssumptionTest {
     }
 
     private static void blameOfAllEight() {
-        BitSolver x = new BitSolver();
-        x.variable(3);
-        x.term(1, 0, 0, 0);
-        for (int n = 0; n < 8; n++) {
-            x.term(0, n, 3, 0);
-            x.formula(0, 0, n + 1);
-            x.formula(6, 2 * n, 0);
-            x.assume(2 * n + 1);
-        }
+        BitSolver x = numbersOf(3);
+        assumeAll(x, 8, 9, 10, 11, 12, 13, 14, 15);
         Expect.answer("attempt", 0, x::attempt);
         Expect.answer("blame", 255, x::blame);
     }

@@ -22,22 +22,10 @@ final class FormulaTest {
         wrongFormulas();
         unusedArgumentIsFree();
         limit();
+        for (int kind = 0; kind <= 10; kind++) {
+            lastFormulaLeavesTheRest(kind);
+        }
         Expect.finish();
-    }
-
-    private static BitSolver pair(int widthOfP, int p, int widthOfQ, int q) {
-        BitSolver x = new BitSolver();
-        x.variable(widthOfP);
-        x.variable(widthOfQ);
-        x.term(1, 0, 0, 0);
-        x.term(1, 1, 0, 0);
-        x.term(0, p, widthOfP, 0);
-        x.term(0, q, widthOfQ, 0);
-        x.formula(0, 0, 2);
-        x.formula(0, 1, 3);
-        x.assertion(0);
-        x.assertion(1);
-        return x;
     }
 
     private static void built(BitSolver x, boolean want, int kind, int a, int b) {
@@ -59,7 +47,7 @@ final class FormulaTest {
     }
 
     private static void relations(int width, int p, int q) {
-        BitSolver x = pair(width, p, width, q);
+        BitSolver x = Given.pair(width, p, width, q);
         built(x, p == q, 0, 0, 1);
         built(x, p < q, 1, 0, 1);
         built(x, p <= q, 2, 0, 1);
@@ -73,14 +61,14 @@ final class FormulaTest {
     }
 
     private static void bits(int width, int p) {
-        BitSolver x = pair(width, p, 1, 0);
+        BitSolver x = Given.pair(width, p, 1, 0);
         for (int k = 0; k < width; k++) {
             built(x, ((p >> k) & 1) == 1, 5, 0, k);
         }
     }
 
     private static void connectives(boolean p, boolean q) {
-        BitSolver x = pair(1, p ? 1 : 0, 1, q ? 1 : 0);
+        BitSolver x = Given.pair(1, p ? 1 : 0, 1, q ? 1 : 0);
         built(x, p, 5, 0, 0);
         built(x, q, 5, 1, 0);
         built(x, !p, 6, 2, 0);
@@ -95,7 +83,7 @@ final class FormulaTest {
     }
 
     private static void wrongKinds() {
-        BitSolver x = pair(2, 1, 2, 1);
+        BitSolver x = Given.pair(2, 1, 2, 1);
         int[] bad = {-1, 11, 12, Integer.MIN_VALUE, Integer.MAX_VALUE};
         for (int kind : bad) {
             refused(x, kind, 0, 1);
@@ -103,7 +91,7 @@ final class FormulaTest {
     }
 
     private static void wrongTerms() {
-        BitSolver x = pair(2, 1, 3, 1);
+        BitSolver x = Given.pair(2, 1, 3, 1);
         int[] bad = {-1, 4, 49, 50, Integer.MIN_VALUE, Integer.MAX_VALUE};
         for (int kind = 0; kind <= 4; kind++) {
             for (int term : bad) {
@@ -120,7 +108,7 @@ final class FormulaTest {
     }
 
     private static void wrongBits() {
-        BitSolver x = pair(2, 1, 3, 1);
+        BitSolver x = Given.pair(2, 1, 3, 1);
         int[] bad = {-1, 2, 3, 4, Integer.MIN_VALUE, Integer.MAX_VALUE};
         for (int bit : bad) {
             refused(x, 5, 0, bit);
@@ -129,7 +117,7 @@ final class FormulaTest {
     }
 
     private static void wrongFormulas() {
-        BitSolver x = pair(2, 1, 3, 1);
+        BitSolver x = Given.pair(2, 1, 3, 1);
         int[] bad = {-1, 2, 3, 49, 50, Integer.MIN_VALUE, Integer.MAX_VALUE};
         for (int formula : bad) {
             refused(x, 6, formula, 0);
@@ -144,7 +132,7 @@ final class FormulaTest {
     private static void unusedArgumentIsFree() {
         int[] anything = {-1, 77, Integer.MIN_VALUE, Integer.MAX_VALUE};
         for (int free : anything) {
-            built(pair(1, 0, 1, 1), false, 6, 0, free);
+            built(Given.pair(1, 0, 1, 1), false, 6, 0, free);
         }
     }
 
@@ -162,5 +150,16 @@ final class FormulaTest {
         Expect.answer("50 stay", 50, () -> x.count(2));
         Expect.answer("the last but one stays", 1, () -> x.entailed(48));
         Expect.answer("the last stays", 0, () -> x.entailed(49));
+    }
+
+    private static void lastFormulaLeavesTheRest(int kind) {
+        BitSolver x = Given.pair(4, 5, 4, 10);
+        for (int i = 2; i < 49; i++) {
+            x.formula(i % 2, 0, 0);
+        }
+        Expect.answer("formula 49 of kind " + kind, 49, () -> x.formula(kind, 0, 1));
+        Expect.answer("formula 48 stays", 1, () -> x.entailed(48));
+        Expect.answer("term 0 stays", 5, () -> x.valueOf(0));
+        Expect.answer("term 1 stays", 10, () -> x.valueOf(1));
     }
 }

@@ -24,18 +24,6 @@ final class ModelTest {
         Expect.finish();
     }
 
-    /** Variables of 4, 4 and 2 bits, and a term for each. */
-    private static BitSolver three() {
-        BitSolver x = new BitSolver();
-        x.variable(4);
-        x.variable(4);
-        x.variable(2);
-        x.term(1, 0, 0, 0);
-        x.term(1, 1, 0, 0);
-        x.term(1, 2, 0, 0);
-        return x;
-    }
-
     private static int number(BitSolver x, int value, int width) {
         return x.term(0, value, width, 0);
     }
@@ -72,7 +60,7 @@ final class ModelTest {
     }
 
     private static void onlyModel(int p, int q, int r) {
-        BitSolver x = three();
+        BitSolver x = Given.three();
         assertEqual(x, 0, number(x, p, 4));
         assertEqual(x, 1, number(x, q, 4));
         assertEqual(x, 2, number(x, r, 2));
@@ -94,7 +82,7 @@ final class ModelTest {
     }
 
     private static void checkForgetsNothing() {
-        BitSolver x = three();
+        BitSolver x = Given.three();
         assertEqual(x, x.term(2, 0, 1, 0), number(x, 9, 4));
         for (int i = 0; i < 3; i++) {
             Expect.answer("check", 1, x::check);
@@ -108,7 +96,7 @@ final class ModelTest {
     }
 
     private static void lessModelGoesByVariableOrder() {
-        BitSolver x = three();
+        BitSolver x = Given.three();
         int sum = x.term(2, 0, 1, 0);
         assertEqual(x, sum, number(x, 5, 4));
         Expect.answer("the first comes first", 0, () -> x.value(0));
@@ -123,7 +111,7 @@ final class ModelTest {
     }
 
     private static void lessModelIsWithoutSign() {
-        BitSolver x = three();
+        BitSolver x = Given.three();
         x.assertion(x.formula(3, 0, number(x, 2, 4)));
         Expect.answer("0 is less than 8", 0, () -> x.value(0));
         x.assertion(x.formula(6, x.formula(0, 0, number(x, 0, 4)), 0));
@@ -132,7 +120,7 @@ final class ModelTest {
     }
 
     private static void valueOfIsInTheLeastModel() {
-        BitSolver x = three();
+        BitSolver x = Given.three();
         assertEqual(x, x.term(2, 0, 1, 0), number(x, 9, 4));
         int joined = x.term(13, x.term(14, 1, 3, 3), x.term(14, 0, 0, 1), 0);
         int turned = x.term(8, 1, 0, 0);
@@ -143,7 +131,7 @@ final class ModelTest {
     }
 
     private static void leastIsNotInTheLeastModel() {
-        BitSolver x = three();
+        BitSolver x = Given.three();
         assertEqual(x, x.term(2, 0, 1, 0), number(x, 9, 4));
         int product = x.term(4, 0, 1, 0);
         int turned = x.term(8, 1, 0, 0);
@@ -160,7 +148,7 @@ final class ModelTest {
     }
 
     private static void leastIsWithoutSign() {
-        BitSolver x = three();
+        BitSolver x = Given.three();
         x.assertion(x.formula(4, 0, number(x, 5, 4)));
         Expect.answer("at most 5 with a sign", 0, () -> x.least(0));
         x.assertion(x.formula(3, 0, number(x, 0, 4)));
@@ -170,7 +158,7 @@ final class ModelTest {
     }
 
     private static void entailedThreeWays() {
-        BitSolver x = three();
+        BitSolver x = Given.three();
         int less = x.formula(1, 0, 1);
         int more = x.formula(1, 1, 0);
         int lessOrNot = x.formula(8, less, x.formula(6, less, 0));
@@ -186,7 +174,7 @@ final class ModelTest {
     }
 
     private static void fixedBits() {
-        BitSolver x = three();
+        BitSolver x = Given.three();
         Expect.answer("none of the first", 0, () -> x.fixed(0));
         Expect.answer("none of the second", 0, () -> x.fixed(1));
         Expect.answer("none of the third", 0, () -> x.fixed(2));
@@ -213,7 +201,7 @@ final class ModelTest {
     }
 
     private static void assumptionsDoNotCount() {
-        BitSolver x = three();
+        BitSolver x = Given.three();
         x.assume(x.formula(1, 0, 0));
         x.assume(x.formula(5, 0, 3));
         Expect.answer("check", 1, x::check);
@@ -227,7 +215,7 @@ final class ModelTest {
     }
 
     private static void wrongNumbers() {
-        BitSolver x = three();
+        BitSolver x = Given.three();
         x.formula(0, 0, 1);
         x.formula(1, 0, 0);
         numbersNotMade(x);
@@ -248,7 +236,7 @@ final class ModelTest {
     }
 
     private static void noModel() {
-        BitSolver x = three();
+        BitSolver x = Given.three();
         x.formula(1, 0, 0);
         x.push();
         x.assertion(0);

@@ -39,7 +39,8 @@ final class ReferenceTest {
     /** Runs that never meet an outcome would not test it. */
     private static void everyOutcomeCameUp(TreeMap<String, Integer> seen) {
         String[] needed = {
-            "variable answer", "variable IllegalArgumentException", "variable IllegalStateException",
+            "variable answer", "variable IllegalArgumentException",
+            "variable IllegalStateException",
             "term answer", "term IllegalArgumentException", "term IllegalStateException",
             "formula answer", "formula IllegalArgumentException", "formula IllegalStateException",
             "assertion answer", "assertion NoSuchElementException",

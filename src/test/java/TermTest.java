@@ -26,23 +26,10 @@ final class TermTest {
         wrongParts();
         unusedArgumentsAreFree();
         limit();
+        for (int kind = 0; kind <= 14; kind++) {
+            lastTermLeavesTheRest(kind);
+        }
         Expect.finish();
-    }
-
-    /** Variable 0 is p and variable 1 is q, by assertions; terms 0 and 1 are these variables. */
-    private static BitSolver pair(int widthOfP, int p, int widthOfQ, int q) {
-        BitSolver x = new BitSolver();
-        x.variable(widthOfP);
-        x.variable(widthOfQ);
-        x.term(1, 0, 0, 0);
-        x.term(1, 1, 0, 0);
-        x.term(0, p, widthOfP, 0);
-        x.term(0, q, widthOfQ, 0);
-        x.formula(0, 0, 2);
-        x.formula(0, 1, 3);
-        x.assertion(0);
-        x.assertion(1);
-        return x;
     }
 
     private static void built(BitSolver x, int want, int kind, int a, int b, int c) {
@@ -60,14 +47,14 @@ final class TermTest {
     }
 
     private static void numbersAndVariables(int width, int p) {
-        BitSolver x = pair(width, p, 1, 0);
+        BitSolver x = Given.pair(width, p, 1, 0);
         built(x, p, 0, p, width, 0);
         built(x, p, 1, 0, 0, 0);
     }
 
     private static void ofTwo(int width, int p, int q) {
         int mask = (1 << width) - 1;
-        BitSolver x = pair(width, p, width, q);
+        BitSolver x = Given.pair(width, p, width, q);
         built(x, (p + q) & mask, 2, 0, 1, 0);
         built(x, (p - q) & mask, 3, 0, 1, 0);
         built(x, (p * q) & mask, 4, 0, 1, 0);
@@ -82,7 +69,7 @@ final class TermTest {
     private static void moved(int width, int p) {
         int mask = (1 << width) - 1;
         int signed = p >> (width - 1) == 1 ? p - (1 << width) : p;
-        BitSolver x = pair(width, p, 1, 0);
+        BitSolver x = Given.pair(width, p, 1, 0);
         built(x, p ^ mask, 8, 0, 0, 0);
         for (int way = 0; way <= 4; way++) {
             built(x, (p << way) & mask, 9, 0, way, 0);
@@ -92,7 +79,7 @@ final class TermTest {
     }
 
     private static void choice(int width, int p, int q) {
-        BitSolver x = pair(width, p, width, q);
+        BitSolver x = Given.pair(width, p, width, q);
         x.formula(1, 0, 1);
         built(x, p < q ? p : q, 12, 2, 0, 1);
         built(x, p < q ? q : p, 12, 2, 1, 0);
@@ -103,7 +90,7 @@ final class TermTest {
             for (int high = 1; low + high <= 4; high++) {
                 for (int p = 0; p < 1 << low; p++) {
                     for (int q = 0; q < 1 << high; q++) {
-                        BitSolver x = pair(low, p, high, q);
+                        BitSolver x = Given.pair(low, p, high, q);
                         built(x, p + (q << low), 13, 0, 1, 0);
                         built(x, q + (p << high), 13, 1, 0, 0);
                     }
@@ -113,7 +100,7 @@ final class TermTest {
     }
 
     private static void bitsOf(int width, int p) {
-        BitSolver x = pair(width, p, 1, 0);
+        BitSolver x = Given.pair(width, p, 1, 0);
         for (int from = 0; from < width; from++) {
             for (int to = from; to < width; to++) {
                 built(x, (p >> from) & ((1 << (to - from + 1)) - 1), 14, 0, from, to);
@@ -146,7 +133,7 @@ final class TermTest {
     }
 
     private static void wrongKinds() {
-        BitSolver x = pair(2, 1, 2, 1);
+        BitSolver x = Given.pair(2, 1, 2, 1);
         int[] bad = {-1, 15, 16, Integer.MIN_VALUE, Integer.MAX_VALUE};
         for (int kind : bad) {
             refused(x, kind, 0, 1, 1);
@@ -154,7 +141,7 @@ final class TermTest {
     }
 
     private static void wrongVariables() {
-        BitSolver x = pair(2, 1, 2, 1);
+        BitSolver x = Given.pair(2, 1, 2, 1);
         int[] bad = {-1, 2, 3, 6, Integer.MIN_VALUE, Integer.MAX_VALUE};
         for (int variable : bad) {
             refused(x, 1, variable, 0, 0);
@@ -162,7 +149,7 @@ final class TermTest {
     }
 
     private static void wrongTerms() {
-        BitSolver x = pair(2, 1, 3, 1);
+        BitSolver x = Given.pair(2, 1, 3, 1);
         int[] bad = {-1, 4, 49, 50, Integer.MIN_VALUE, Integer.MAX_VALUE};
         for (int term : bad) {
             for (int kind = 2; kind <= 7; kind++) {
@@ -182,7 +169,7 @@ final class TermTest {
     }
 
     private static void wrongWays() {
-        BitSolver x = pair(2, 1, 2, 1);
+        BitSolver x = Given.pair(2, 1, 2, 1);
         int[] bad = {-1, 5, 32, Integer.MIN_VALUE, Integer.MAX_VALUE};
         for (int way : bad) {
             for (int kind = 9; kind <= 11; kind++) {
@@ -192,7 +179,7 @@ final class TermTest {
     }
 
     private static void wrongChoices() {
-        BitSolver x = pair(2, 1, 3, 1);
+        BitSolver x = Given.pair(2, 1, 3, 1);
         int[] bad = {-1, 2, 50, Integer.MIN_VALUE, Integer.MAX_VALUE};
         for (int formula : bad) {
             refused(x, 12, formula, 0, 0);
@@ -206,7 +193,7 @@ final class TermTest {
     }
 
     private static void wrongJoins() {
-        BitSolver x = pair(2, 1, 3, 1);
+        BitSolver x = Given.pair(2, 1, 3, 1);
         refused(x, 13, 0, 1, 0);
         refused(x, 13, 1, 0, 0);
         refused(x, 13, 1, 1, 0);
@@ -217,7 +204,7 @@ final class TermTest {
     }
 
     private static void wrongParts() {
-        BitSolver x = pair(3, 5, 1, 1);
+        BitSolver x = Given.pair(3, 5, 1, 1);
         refused(x, 14, 0, 0, 3);
         refused(x, 14, 0, 3, 3);
         refused(x, 14, 0, -1, 1);
@@ -232,7 +219,7 @@ final class TermTest {
     private static void unusedArgumentsAreFree() {
         int[] anything = {-1, 77, Integer.MIN_VALUE, Integer.MAX_VALUE};
         for (int free : anything) {
-            BitSolver x = pair(3, 5, 3, 6);
+            BitSolver x = Given.pair(3, 5, 3, 6);
             built(x, 4, 0, 4, 3, free);
             built(x, 5, 1, 0, free, free);
             built(x, 3, 2, 0, 1, free);
@@ -245,7 +232,7 @@ final class TermTest {
             built(x, 2, 9, 0, 1, free);
             built(x, 2, 10, 0, 1, free);
             built(x, 6, 11, 0, 1, free);
-            BitSolver y = pair(1, 0, 1, 1);
+            BitSolver y = Given.pair(1, 0, 1, 1);
             built(y, 2, 13, 0, 1, free);
         }
     }
@@ -262,5 +249,27 @@ final class TermTest {
         Expect.thrown("term 50, not made too", ARGUMENT, () -> x.term(8, 50, 0, 0));
         Expect.answer("50 stay", 50, () -> x.count(1));
         Expect.answer("the last stays", 1, () -> x.valueOf(49));
+    }
+
+    private static void lastTermLeavesTheRest(int kind) {
+        BitSolver x = Given.three();
+        x.formula(1, 0, 1);
+        for (int i = 3; i < 49; i++) {
+            x.term(0, i % 16, 4, 0);
+        }
+        int[][] arguments = {
+            {9, 4, 0}, {1, 0, 0}, {0, 1, 0}, {0, 1, 0}, {0, 1, 0}, {0, 1, 0}, {0, 1, 0}, {0, 1, 0},
+            {1, 0, 0}, {1, 2, 0}, {1, 2, 0}, {1, 2, 0}, {0, 0, 1}, {2, 2, 0}, {1, 0, 3}
+        };
+        int[] a = arguments[kind];
+        Expect.answer("term 49 of kind " + kind, 49, () -> x.term(kind, a[0], a[1], a[2]));
+        Expect.answer("term 48 stays", 0, () -> x.least(48));
+        Expect.answer("the formula stays", 2, () -> x.entailed(0));
+        Expect.answer("there are models", 1, x::check);
+        for (int v = 0; v < 3; v++) {
+            int asked = v;
+            Expect.answer("value(" + v + ")", 0, () -> x.value(asked));
+            Expect.answer("fixed(" + v + ")", 0, () -> x.fixed(asked));
+        }
     }
 }
