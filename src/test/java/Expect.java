@@ -16,6 +16,14 @@ final class Expect {
         same(call, want.getSimpleName(), outcome(run));
     }
 
+    /** A term has just the bits below its width; one formula is made to tell. */
+    static void width(BitSolver x, int term, int width) {
+        int made = x.count(2);
+        answer("the highest bit of a width " + width, made, () -> x.formula(5, term, width - 1));
+        thrown("a bit above a width " + width, IllegalArgumentException.class,
+                () -> x.formula(5, term, width));
+    }
+
     static void same(String what, String want, String got) {
         made++;
         if (!want.equals(got)) {

@@ -1,8 +1,5 @@
-/** Promise 4 (formula): what each kind means for all widths and values, and what is refused. */
+/** Promise 4 (formula): what each kind means, for all widths and values. */
 final class FormulaTest {
-    private static final Class<IllegalArgumentException> ARGUMENT = IllegalArgumentException.class;
-    private static final Class<IllegalStateException> STATE = IllegalStateException.class;
-
     public static void main(String[] args) {
         for (int width = 1; width <= 4; width++) {
             for (int p = 0; p < 1 << width; p++) {
@@ -16,14 +13,10 @@ final class FormulaTest {
         connectives(false, true);
         connectives(true, false);
         connectives(true, true);
-        wrongKinds();
-        wrongTerms();
-        wrongBits();
-        wrongFormulas();
         unusedArgumentIsFree();
-        limit();
         for (int kind = 0; kind <= 10; kind++) {
-            lastFormulaLeavesTheRest(kind);
+            lastFormulaLeavesTheRest(kind, 0, 1);
+            lastFormulaLeavesTheRest(kind, 2, 3);
         }
         Expect.finish();
     }
@@ -33,13 +26,6 @@ final class FormulaTest {
         String call = "formula(" + kind + ", " + a + ", " + b + ")";
         Expect.answer(call, number, () -> x.formula(kind, a, b));
         Expect.answer("holds " + call, want ? 1 : 0, () -> x.entailed(number));
-    }
-
-    private static void refused(BitSolver x, int kind, int a, int b) {
-        int before = x.count(2);
-        String call = "formula(" + kind + ", " + a + ", " + b + ")";
-        Expect.thrown(call, ARGUMENT, () -> x.formula(kind, a, b));
-        Expect.answer(call + " makes none", before, () -> x.count(2));
     }
 
     private static int signed(int width, int value) {
@@ -82,53 +68,6 @@ final class FormulaTest {
         built(x, true, 10, 2, 2);
     }
 
-    private static void wrongKinds() {
-        BitSolver x = Given.pair(2, 1, 2, 1);
-        int[] bad = {-1, 11, 12, Integer.MIN_VALUE, Integer.MAX_VALUE};
-        for (int kind : bad) {
-            refused(x, kind, 0, 1);
-        }
-    }
-
-    private static void wrongTerms() {
-        BitSolver x = Given.pair(2, 1, 3, 1);
-        int[] bad = {-1, 4, 49, 50, Integer.MIN_VALUE, Integer.MAX_VALUE};
-        for (int kind = 0; kind <= 4; kind++) {
-            for (int term : bad) {
-                refused(x, kind, term, 0);
-                refused(x, kind, 0, term);
-                refused(x, kind, term, term);
-            }
-            refused(x, kind, 0, 1);
-            refused(x, kind, 1, 0);
-        }
-        for (int term : bad) {
-            refused(x, 5, term, 0);
-        }
-    }
-
-    private static void wrongBits() {
-        BitSolver x = Given.pair(2, 1, 3, 1);
-        int[] bad = {-1, 2, 3, 4, Integer.MIN_VALUE, Integer.MAX_VALUE};
-        for (int bit : bad) {
-            refused(x, 5, 0, bit);
-        }
-        refused(x, 5, 1, 3);
-    }
-
-    private static void wrongFormulas() {
-        BitSolver x = Given.pair(2, 1, 3, 1);
-        int[] bad = {-1, 2, 3, 49, 50, Integer.MIN_VALUE, Integer.MAX_VALUE};
-        for (int formula : bad) {
-            refused(x, 6, formula, 0);
-            for (int kind = 7; kind <= 10; kind++) {
-                refused(x, kind, formula, 0);
-                refused(x, kind, 0, formula);
-                refused(x, kind, formula, formula);
-            }
-        }
-    }
-
     private static void unusedArgumentIsFree() {
         int[] anything = {-1, 77, Integer.MIN_VALUE, Integer.MAX_VALUE};
         for (int free : anything) {
@@ -136,30 +75,22 @@ final class FormulaTest {
         }
     }
 
-    private static void limit() {
-        BitSolver x = new BitSolver();
-        x.variable(4);
-        x.term(1, 0, 0, 0);
-        for (int i = 0; i < 50; i++) {
-            int number = i;
-            Expect.answer("formula " + i, number, () -> x.formula(number % 2, 0, 0));
-        }
-        Expect.thrown("formula 50", STATE, () -> x.formula(0, 0, 0));
-        Expect.thrown("formula 50, wrong too", ARGUMENT, () -> x.formula(11, 0, 0));
-        Expect.thrown("formula 50, not made too", ARGUMENT, () -> x.formula(6, 50, 0));
-        Expect.answer("50 stay", 50, () -> x.count(2));
-        Expect.answer("the last but one stays", 1, () -> x.entailed(48));
-        Expect.answer("the last stays", 0, () -> x.entailed(49));
-    }
-
-    private static void lastFormulaLeavesTheRest(int kind) {
-        BitSolver x = Given.pair(4, 5, 4, 10);
-        for (int i = 2; i < 49; i++) {
+    /** Just below the limit of 50: the last formula may not run over into what else is kept. */
+    private static void lastFormulaLeavesTheRest(int kind, int a, int b) {
+        BitSolver x = Given.values();
+        // A difference without a borrow leaves a carry in all that is worked with.
+        x.term(3, 0, 0, 0);
+        for (int i = x.count(2); i < 49; i++) {
             x.formula(i % 2, 0, 0);
         }
-        Expect.answer("formula 49 of kind " + kind, 49, () -> x.formula(kind, 0, 1));
+        Expect.answer("formula 49 of kind " + kind, 49, () -> x.formula(kind, a, b));
         Expect.answer("formula 48 stays", 1, () -> x.entailed(48));
-        Expect.answer("term 0 stays", 5, () -> x.valueOf(0));
-        Expect.answer("term 1 stays", 10, () -> x.valueOf(1));
+        for (int i = 0; i < 16; i++) {
+            int value = i;
+            x.push();
+            x.assertion(value);
+            Expect.answer("term 0 stays", value, () -> x.valueOf(0));
+            x.pop();
+        }
     }
 }

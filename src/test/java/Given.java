@@ -19,6 +19,24 @@ final class Given {
         return x;
     }
 
+    /**
+     * The last of three variables, of 4 bits, is term 0; term n + 1 is the number n, and formula n
+     * says that the variable is n, for 0 .. 15. Term 17 is 2 bits of it.
+     */
+    static BitSolver values() {
+        BitSolver x = new BitSolver();
+        x.variable(4);
+        x.variable(2);
+        x.variable(4);
+        x.term(1, 2, 0, 0);
+        for (int n = 0; n < 16; n++) {
+            x.term(0, n, 4, 0);
+            x.formula(0, 0, n + 1);
+        }
+        x.term(14, 0, 1, 2);
+        return x;
+    }
+
     /** Variables of 4, 4 and 2 bits, and a term for each. */
     static BitSolver three() {
         BitSolver x = new BitSolver();

@@ -1,20 +1,13 @@
-import java.util.NoSuchElementException;
-
 /** Promises 5 (assertion), 6 (push) and 7 (pop). */
 final class LevelTest {
-    private static final Class<IllegalStateException> STATE = IllegalStateException.class;
-    private static final Class<NoSuchElementException> NONE = NoSuchElementException.class;
-
     public static void main(String[] args) {
         assertionAnswersHowMany();
-        assertionOfNone();
-        assertionLimit();
-        pushNumbersAndLimit();
-        popOfLevelZero();
         popTakesItsOwnAssertions();
         popLeavesTheRest();
         popGivesRoomAgain();
         levelOpenedAgainIsEmpty();
+        levelClosedLeavesNothing();
+        everyLevelStandsAllQuestions();
         Expect.finish();
     }
 
@@ -42,59 +35,6 @@ final class LevelTest {
         Expect.answer("count(3)", 4, () -> x.count(3));
         x.push();
         Expect.answer("assertion(9) above", 5, () -> x.assertion(9));
-    }
-
-    private static void assertionOfNone() {
-        BitSolver x = bounds();
-        int[] bad = {-1, 16, 49, 50, Integer.MIN_VALUE, Integer.MAX_VALUE};
-        for (int formula : bad) {
-            Expect.thrown("assertion(" + formula + ")", NONE, () -> x.assertion(formula));
-        }
-        Expect.answer("none is asserted", 0, () -> x.count(3));
-    }
-
-    private static void assertionLimit() {
-        BitSolver x = bounds();
-        for (int i = 0; i < 30; i++) {
-            int due = i + 1;
-            if (i == 10) {
-                x.push();
-            }
-            Expect.answer("assertion " + i, due, () -> x.assertion(2));
-        }
-        Expect.thrown("assertion 30", STATE, () -> x.assertion(9));
-        Expect.thrown("assertion 30 of none", NONE, () -> x.assertion(16));
-        Expect.answer("30 stay", 30, () -> x.count(3));
-        Expect.answer("it is not asserted", 2, () -> x.value(0));
-        Expect.answer("pop", 20, x::pop);
-        Expect.answer("there is room again", 11, () -> x.assertion(9));
-        Expect.answer("it is asserted", 9, () -> x.value(0));
-    }
-
-    private static void pushNumbersAndLimit() {
-        BitSolver x = bounds();
-        for (int i = 1; i <= 5; i++) {
-            Expect.answer("push " + i, i, x::push);
-        }
-        Expect.thrown("push 6", STATE, x::push);
-        Expect.answer("five are open", 5, () -> x.count(4));
-        x.assertion(6);
-        Expect.thrown("push 6 again", STATE, x::push);
-        Expect.answer("the assertion went in", 6, () -> x.value(0));
-        Expect.answer("pop", 1, x::pop);
-        Expect.answer("push behind pop", 5, x::push);
-    }
-
-    private static void popOfLevelZero() {
-        BitSolver x = bounds();
-        x.assertion(4);
-        Expect.thrown("pop", STATE, x::pop);
-        Expect.answer("the assertion stays", 1, () -> x.count(3));
-        Expect.answer("and holds", 4, () -> x.value(0));
-        x.push();
-        Expect.answer("pop of level 1", 0, x::pop);
-        Expect.thrown("pop once more", STATE, x::pop);
-        Expect.answer("level", 0, () -> x.count(4));
     }
 
     private static void popTakesItsOwnAssertions() {
@@ -159,5 +99,49 @@ final class LevelTest {
         x.assertion(5);
         Expect.answer("pop", 1, x::pop);
         Expect.answer("the one below stays", 3, () -> x.value(0));
+    }
+
+    private static void levelClosedLeavesNothing() {
+        BitSolver x = bounds();
+        int false0 = x.formula(1, 0, 0);
+        x.push();
+        x.push();
+        x.pop();
+        x.pop();
+        x.assertion(3);
+        Expect.answer("in all models that are left", 1, () -> x.entailed(3));
+        x.assertion(false0);
+        Expect.answer("what was open is no model", 0, x::check);
+        Expect.answer("nor can anything be assumed", 0, x::attempt);
+    }
+
+    /** Questions and what is built leave the models alone, at the highest level too. */
+    private static void everyLevelStandsAllQuestions() {
+        BitSolver x = bounds();
+        for (int level = 0; level <= 5; level++) {
+            int due = 2 * level + 1;
+            x.assertion(due);
+            x.assume(15);
+            Expect.answer("attempt at level " + level, 1, x::attempt);
+            Expect.answer("value behind attempt", due, () -> x.value(0));
+            Expect.answer("fixed at level " + level, level >= 4 ? 8 : 0, () -> x.fixed(0));
+            Expect.answer("value behind fixed", due, () -> x.value(0));
+            Expect.answer("least at level " + level, due, () -> x.least(0));
+            Expect.answer("value behind least", due, () -> x.value(0));
+            x.term(4, 0, x.term(3, 0, due, 0), 0);
+            Expect.answer("value behind terms", due, () -> x.value(0));
+            x.formula(4, 0, due);
+            Expect.answer("value behind a formula", due, () -> x.value(0));
+            if (level < 5) {
+                x.push();
+            }
+        }
+        for (int level = 5; level >= 0; level--) {
+            int due = 2 * level + 1;
+            Expect.answer("value back at level " + level, due, () -> x.value(0));
+            if (level > 0) {
+                x.pop();
+            }
+        }
     }
 }

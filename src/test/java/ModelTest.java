@@ -1,26 +1,21 @@
-import java.util.NoSuchElementException;
-
 /** Promises 8 (check), 9 (value), 10 (valueOf), 11 (entailed), 12 (fixed) and 13 (least). */
 final class ModelTest {
-    private static final Class<NoSuchElementException> NONE = NoSuchElementException.class;
-    private static final Class<UnsupportedOperationException> NO_MODEL =
-            UnsupportedOperationException.class;
-
     public static void main(String[] args) {
         checkOfNumbersAlone();
         checkFindsTheOnlyModel();
         checkForgetsNothing();
         lessModelGoesByVariableOrder();
+        lessModelByEachVariable();
         lessModelIsWithoutSign();
         valueOfIsInTheLeastModel();
         leastIsNotInTheLeastModel();
         leastIsWithoutSign();
         entailedThreeWays();
+        entailedInAllButOne();
         fixedBits();
+        fixedButForOneBit();
         fixedOfATermlessVariable();
         assumptionsDoNotCount();
-        wrongNumbers();
-        noModel();
         Expect.finish();
     }
 
@@ -110,6 +105,25 @@ final class ModelTest {
         Expect.answer("the second, with a carry lost", 15, () -> x.value(1));
     }
 
+    /** "or if they are equal there of variable 1, and so on", down to the last variable. */
+    private static void lessModelByEachVariable() {
+        for (int i = 0; i < 5; i++) {
+            BitSolver x = new BitSolver();
+            for (int v = 0; v < 6; v++) {
+                x.variable(1);
+                x.term(1, v, 0, 0);
+            }
+            x.formula(0, i, i + 1);
+            x.assertion(x.formula(6, 0, 0));
+            for (int v = 0; v < 6; v++) {
+                int asked = v;
+                int due = v == i + 1 ? 1 : 0;
+                Expect.answer("value(" + v + "), where " + i + " and the next differ", due,
+                        () -> x.value(asked));
+            }
+        }
+    }
+
     private static void lessModelIsWithoutSign() {
         BitSolver x = Given.three();
         x.assertion(x.formula(3, 0, number(x, 2, 4)));
@@ -173,6 +187,33 @@ final class ModelTest {
         Expect.answer("of another variable", 2, () -> x.entailed(bit));
     }
 
+    /** Whether a formula holds in all models, in none, or in some: one model makes it some. */
+    private static void entailedInAllButOne() {
+        BitSolver x = Given.three();
+        int[] values = {15, 15, 3};
+        int[] widths = {4, 4, 2};
+        int all = x.formula(0, 0, 0);
+        int only = all;
+        for (int v = 0; v < 3; v++) {
+            only = x.formula(7, only, x.formula(0, v, number(x, values[v], widths[v])));
+        }
+        int one = only;
+        int others = x.formula(6, one, 0);
+        int none = x.formula(6, all, 0);
+        Expect.answer("in all", 1, () -> x.entailed(all));
+        Expect.answer("in all but one", 2, () -> x.entailed(others));
+        Expect.answer("in one", 2, () -> x.entailed(one));
+        Expect.answer("in none", 0, () -> x.entailed(none));
+        x.push();
+        x.assertion(others);
+        Expect.answer("without that one, in all", 1, () -> x.entailed(others));
+        Expect.answer("without that one, in none", 0, () -> x.entailed(one));
+        x.pop();
+        x.assertion(one);
+        Expect.answer("with that one alone, in none", 0, () -> x.entailed(others));
+        Expect.answer("with that one alone, in all", 1, () -> x.entailed(one));
+    }
+
     private static void fixedBits() {
         BitSolver x = Given.three();
         Expect.answer("none of the first", 0, () -> x.fixed(0));
@@ -190,6 +231,26 @@ final class ModelTest {
         Expect.answer("still none of the third", 0, () -> x.fixed(2));
         x.assertion(x.formula(5, 2, 1));
         Expect.answer("the high one of the third", 2, () -> x.fixed(2));
+    }
+
+    /** Two models that differ in one bit alone, for each bit. */
+    private static void fixedButForOneBit() {
+        int[] widths = {4, 4, 2};
+        for (int open = 0; open < 10; open++) {
+            BitSolver x = Given.three();
+            for (int place = 0; place < 10; place++) {
+                int bit = x.formula(5, place / 4, place % 4);
+                if (place != open) {
+                    x.assertion(place % 3 == 0 ? bit : x.formula(6, bit, 0));
+                }
+            }
+            for (int v = 0; v < 3; v++) {
+                int asked = v;
+                int all = (1 << widths[v]) - 1;
+                int due = open / 4 == v ? all - (1 << (open % 4)) : all;
+                Expect.answer("fixed(" + v + "), all but bit " + open, due, () -> x.fixed(asked));
+            }
+        }
     }
 
     private static void fixedOfATermlessVariable() {
@@ -212,45 +273,5 @@ final class ModelTest {
         Expect.answer("entailed", 2, () -> x.entailed(1));
         Expect.answer("attempt", 0, x::attempt);
         Expect.answer("check behind it", 1, x::check);
-    }
-
-    private static void wrongNumbers() {
-        BitSolver x = Given.three();
-        x.formula(0, 0, 1);
-        x.formula(1, 0, 0);
-        numbersNotMade(x);
-        x.assertion(1);
-        numbersNotMade(x);
-    }
-
-    private static void numbersNotMade(BitSolver x) {
-        int[] bad = {-1, 3, 6, 49, 50, Integer.MIN_VALUE, Integer.MAX_VALUE};
-        for (int number : bad) {
-            Expect.thrown("value(" + number + ")", NONE, () -> x.value(number));
-            Expect.thrown("valueOf(" + number + ")", NONE, () -> x.valueOf(number));
-            Expect.thrown("entailed(" + number + ")", NONE, () -> x.entailed(number));
-            Expect.thrown("fixed(" + number + ")", NONE, () -> x.fixed(number));
-            Expect.thrown("least(" + number + ")", NONE, () -> x.least(number));
-        }
-        Expect.thrown("entailed(2)", NONE, () -> x.entailed(2));
-    }
-
-    private static void noModel() {
-        BitSolver x = Given.three();
-        x.formula(1, 0, 0);
-        x.push();
-        x.assertion(0);
-        Expect.answer("check", 0, x::check);
-        Expect.thrown("value", NO_MODEL, () -> x.value(0));
-        Expect.thrown("valueOf", NO_MODEL, () -> x.valueOf(0));
-        Expect.thrown("entailed", NO_MODEL, () -> x.entailed(0));
-        Expect.thrown("fixed", NO_MODEL, () -> x.fixed(0));
-        Expect.thrown("least", NO_MODEL, () -> x.least(0));
-        x.pop();
-        Expect.answer("value again", 0, () -> x.value(0));
-        Expect.answer("valueOf again", 0, () -> x.valueOf(0));
-        Expect.answer("entailed again", 0, () -> x.entailed(0));
-        Expect.answer("fixed again", 0, () -> x.fixed(0));
-        Expect.answer("least again", 0, () -> x.least(0));
     }
 }

@@ -2,7 +2,6 @@ import java.util.NoSuchElementException;
 
 /** Promises 1 (a new object), 2 (variable) and 18 (count). */
 final class StateTest {
-    private static final Class<IllegalArgumentException> ARGUMENT = IllegalArgumentException.class;
     private static final Class<IllegalStateException> STATE = IllegalStateException.class;
     private static final Class<NoSuchElementException> NONE = NoSuchElementException.class;
 
@@ -10,13 +9,8 @@ final class StateTest {
         newObject();
         objectsAreApart();
         variableNumbers();
-        variableWidths();
-        variableLimitOfNumber();
-        variableLimitOfBits();
-        variableArgumentComesFirst();
         variableAfterFormulas();
         counts();
-        countOfAnotherNumber();
         Expect.finish();
     }
 
@@ -60,46 +54,6 @@ final class StateTest {
         }
         Expect.answer("variables made", 4, () -> x.count(0));
         Expect.answer("bits made", 10, () -> x.count(6));
-    }
-
-    private static void variableWidths() {
-        BitSolver x = new BitSolver();
-        int[] bad = {0, 5, -1, 6, 32, 33, Integer.MIN_VALUE, Integer.MAX_VALUE};
-        for (int width : bad) {
-            Expect.thrown("variable(" + width + ")", ARGUMENT, () -> x.variable(width));
-        }
-        Expect.answer("none was made", 0, () -> x.count(0));
-        Expect.answer("no bit was made", 0, () -> x.count(6));
-    }
-
-    private static void variableLimitOfNumber() {
-        BitSolver x = new BitSolver();
-        for (int i = 0; i < 6; i++) {
-            Expect.answer("variable(1)", i, () -> x.variable(1));
-        }
-        Expect.thrown("variable(1), the seventh", STATE, () -> x.variable(1));
-        Expect.answer("six stay", 6, () -> x.count(0));
-        Expect.answer("six bits stay", 6, () -> x.count(6));
-    }
-
-    private static void variableLimitOfBits() {
-        BitSolver x = new BitSolver();
-        x.variable(4);
-        x.variable(4);
-        Expect.thrown("variable(3), 11 bits", STATE, () -> x.variable(3));
-        Expect.answer("8 bits stay", 8, () -> x.count(6));
-        Expect.answer("variable(2), 10 bits", 2, () -> x.variable(2));
-        Expect.thrown("variable(1), 11 bits", STATE, () -> x.variable(1));
-        Expect.answer("10 bits stay", 10, () -> x.count(6));
-    }
-
-    private static void variableArgumentComesFirst() {
-        BitSolver x = new BitSolver();
-        for (int i = 0; i < 6; i++) {
-            x.variable(1);
-        }
-        Expect.thrown("variable(5) of a full object", ARGUMENT, () -> x.variable(5));
-        Expect.thrown("variable(0) of a full object", ARGUMENT, () -> x.variable(0));
     }
 
     private static void variableAfterFormulas() {
@@ -154,13 +108,5 @@ final class StateTest {
         Expect.answer("count(5) behind pop", 6, () -> x.count(5));
         x.clear();
         Expect.answer("count(5) behind clear", 0, () -> x.count(5));
-    }
-
-    private static void countOfAnotherNumber() {
-        BitSolver x = new BitSolver();
-        int[] bad = {-1, 7, 8, Integer.MIN_VALUE, Integer.MAX_VALUE};
-        for (int what : bad) {
-            Expect.thrown("count(" + what + ")", ARGUMENT, () -> x.count(what));
-        }
     }
 }
