@@ -5,7 +5,7 @@ import java.lang.reflect.Modifier;
 import java.util.Arrays;
 import java.util.TreeSet;
 
-/** The signatures of the document, and that the class shows nothing else. */
+/** The signatures of the document; that the class shows nothing else, and has no static state. */
 final class FaceTest {
     private static final String[] FACE = {
         "int assertion(int) NoSuchElementException IllegalStateException",
@@ -33,7 +33,8 @@ final class FaceTest {
         Expect.same("final", "true", "" + Modifier.isFinal(face.getModifiers()));
         methods(face);
         constructors(face);
-        fields(face);
+        fieldsAreHidden(face);
+        noStaticState(face);
         classesInside(face);
         Expect.finish();
     }
@@ -86,10 +87,16 @@ final class FaceTest {
         Expect.same("constructor", "public BitSolver()", made[0].toString());
     }
 
-    private static void fields(Class<?> face) {
+    private static void fieldsAreHidden(Class<?> face) {
         for (Field field : face.getDeclaredFields()) {
+            Expect.same(field + " is private", "true",
+                    "" + Modifier.isPrivate(field.getModifiers()));
+        }
+    }
+
+    private static void noStaticState(Class<?> where) {
+        for (Field field : where.getDeclaredFields()) {
             int modifiers = field.getModifiers();
-            Expect.same(field + " is private", "true", "" + Modifier.isPrivate(modifiers));
             boolean mutable = Modifier.isStatic(modifiers) && !Modifier.isFinal(modifiers);
             Expect.same(field + " is static and not final", "false", "" + mutable);
         }
@@ -101,6 +108,7 @@ final class FaceTest {
             boolean shown = Modifier.isPublic(modifiers) || Modifier.isProtected(modifiers);
             Expect.same(inside + " is shown", "false", "" + shown);
             Expect.same(inside + " is static", "true", "" + Modifier.isStatic(modifiers));
+            noStaticState(inside);
         }
     }
 }
