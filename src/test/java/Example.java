@@ -5,15 +5,15 @@ public final class Example {
         int v = solver.variable(4);
         int w = solver.variable(4);
 
-        int x = solver.term(1, v, 0, 0);
-        int y = solver.term(1, w, 0, 0);
-        int sum = solver.term(2, x, y, 0);
-        int nine = solver.term(0, 9, 4, 0);
+        int x = solver.term(1, v, 0, 0);                 // variable v as a term
+        int y = solver.term(1, w, 0, 0);                 // variable w as a term
+        int sum = solver.term(2, x, y, 0);               // x + y, what goes beyond 4 bits lost
+        int nine = solver.term(0, 9, 4, 0);              // the number 9 of width 4
 
-        int sumIsNine = solver.formula(0, sum, nine);
-        int xBelowY = solver.formula(1, x, y);
-        int yBelowX = solver.formula(1, y, x);
-        int xIsOdd = solver.formula(5, x, 0);
+        int sumIsNine = solver.formula(0, sum, nine);    // x + y equals 9
+        int xBelowY = solver.formula(1, x, y);           // x is less than y
+        int yBelowX = solver.formula(1, y, x);           // y is less than x
+        int xIsOdd = solver.formula(5, x, 0);            // bit 0 of x is 1
 
         System.out.println(solver.assertion(sumIsNine)); // 1: one formula is asserted
         System.out.println(solver.check());              // 1: there is a model
